@@ -24,6 +24,7 @@ public final class TwoKeys {
     private static final int SLOTS = 8;
     private static final int PARTS = 4;
     private static final int KEY_SLOT = 7;
+    private static final int NUMBERS = 256;
 
     private static final int MOST_STEPS = 20;
     private static final int MOST_STATES = 4000;
@@ -39,13 +40,12 @@ public final class TwoKeys {
 
     private static final int[] EVEN_WEIGHTS = {1, 1, 1, 1, 1};
 
-    private final char[] text = new char[MOST_TEXT];
-    private int signs = 0;
-    private final Reader reader = new Reader(text);
-    private final Machine machine = new Machine();
+    private final Reader reader = new Reader();
+    private final Walk walk = new Walk();
+    private final Machine machine = walk.machine;
     private final Moment now = new Moment();
-    private final Moment other = new Moment();
-    private final Walk walk = new Walk(machine);
+    private final Moment turned = new Moment();
+    private final boolean[] breakingNumbers = new boolean[NUMBERS];
     private final Told told = new Told();
     private final Typing typing = new Typing();
     private final Houses houses = new Houses();
@@ -63,21 +63,21 @@ public final class TwoKeys {
     // ---- the machine
 
     public int sign(int v) {
-        if (signs + 4 > MOST_TEXT) {
+        if (reader.signs + 4 > MOST_TEXT) {
             return NONE;
         }
         for (int shift = 24; shift >= 0; shift -= 8) {
-            text[signs] = (char) ((v >>> shift) & 255);
-            signs++;
+            reader.text[reader.signs] = (char) ((v >>> shift) & 255);
+            reader.signs++;
         }
-        return signs;
+        return reader.signs;
     }
 
     public boolean end(int n) {
-        if (n < 0 || n > signs) {
+        if (n < 0 || n > reader.signs) {
             return false;
         }
-        signs = n;
+        reader.signs = n;
         return true;
     }
 
@@ -86,7 +86,7 @@ public final class TwoKeys {
         if (task < 0 || task > machine.taskCount || task >= MOST_TASKS) {
             return NO_PLACE;
         }
-        int wrong = reader.readProgram(length);
+        int wrong = reader.readLines(length, MOST_LINES);
         if (wrong >= 0) {
             return -1 - wrong;
         }
@@ -235,14 +235,14 @@ public final class TwoKeys {
         if (refusesRuns(n)) {
             return NONE;
         }
-        return explored(n, Walk.SEEK_NOTHING, 0) ? walk.states : TOO_MANY;
+        return explored(n) ? walk.states : TOO_MANY;
     }
 
     public int never(int n) {
         if (refusesRuns(n)) {
             return NONE;
         }
-        if (!explored(n, Walk.SEEK_NOTHING, 0)) {
+        if (!explored(n)) {
             return TOO_MANY;
         }
         return tellStepsTo(walk.firstBreak);
@@ -257,7 +257,7 @@ public final class TwoKeys {
             return NO_PLACE - wrong;
         }
         machine.question = reader.exchange(machine.question);
-        if (!explored(n, Walk.SEEK_QUESTION, 0)) {
+        if (!walk.explore(now, n, MOST_STATES, Walk.SEEK_QUESTION, 0)) {
             return TOO_MANY;
         }
         if (machine.value(machine.question, 0, now) != 0) {
@@ -271,7 +271,7 @@ public final class TwoKeys {
         if (refusesRuns(n)) {
             return NONE;
         }
-        if (!explored(n, Walk.SEEK_NOTHING, 0)) {
+        if (!explored(n)) {
             return TOO_MANY;
         }
         if (walk.firstStuck < 0) {
@@ -289,7 +289,7 @@ public final class TwoKeys {
         if (all > MOST_RUNS) {
             return NONE;
         }
-        if (!explored(n, Walk.SEEK_NOTHING, 0)) {
+        if (!explored(n)) {
             return TOO_MANY;
         }
         told.tellTwo(all - walk.weightWithout(Walk.BREAKS, n, EVEN_WEIGHTS), all);
@@ -314,7 +314,7 @@ public final class TwoKeys {
         if (all > MOST_RUNS) {
             return NONE;
         }
-        if (!explored(n, Walk.SEEK_NOTHING, 0)) {
+        if (!explored(n)) {
             return TOO_MANY;
         }
         if (all == 0) {
@@ -335,7 +335,7 @@ public final class TwoKeys {
         if (first > MOST_RUNS || second > MOST_RUNS) {
             return NONE;
         }
-        if (!explored(n, Walk.SEEK_NOTHING, 0)) {
+        if (!explored(n)) {
             return TOO_MANY;
         }
         if (first == 0 || second == 0) {
@@ -351,16 +351,15 @@ public final class TwoKeys {
         if (refusesRuns(n) || n > MOST_ROUND_STEPS || slot < 0 || slot >= SLOTS) {
             return NONE;
         }
-        boolean[] breaking = walk.breakingNumbers;
-        for (int v = 0; v < 256; v++) {
-            other.copy(now);
-            other.putSlot(slot, v);
-            if (!walk.explore(other, n, MOST_ROUND_STATES, Walk.SEEK_NOTHING, 0)) {
+        for (int v = 0; v < NUMBERS; v++) {
+            turned.copy(now);
+            turned.putSlot(slot, v);
+            if (!walk.explore(turned, n, MOST_ROUND_STATES, Walk.SEEK_NOTHING, 0)) {
                 return TOO_MANY;
             }
-            breaking[v] = walk.firstBreak >= 0;
+            breakingNumbers[v] = walk.firstBreak >= 0;
         }
-        return tellMarked(breaking);
+        return tellBreakingNumbers();
     }
 
     public int means(int number, int n) {
@@ -371,7 +370,7 @@ public final class TwoKeys {
         if (all > MOST_RUNS) {
             return NONE;
         }
-        if (!explored(n, Walk.SEEK_SAID, number)) {
+        if (!walk.explore(now, n, MOST_STATES, Walk.SEEK_SAID, number)) {
             return TOO_MANY;
         }
         long silent = walk.weightWithout(Walk.SOUGHT, n, EVEN_WEIGHTS);
@@ -390,7 +389,7 @@ public final class TwoKeys {
         if ((machine.on & 1 << bolt) == 0) {
             return NONE;
         }
-        if (!explored(n, Walk.SEEK_HID, bolt)) {
+        if (!walk.explore(now, n, MOST_STATES, Walk.SEEK_HID, bolt)) {
             return TOO_MANY;
         }
         return tellStepsTo(walk.firstSought);
@@ -415,7 +414,7 @@ public final class TwoKeys {
         if (line < 0 || line >= machine.tasks[task].lines) {
             return NO_PLACE;
         }
-        int wrong = reader.readOneLine(length);
+        int wrong = reader.readLines(length, 1);
         if (wrong >= 0) {
             return -1 - wrong;
         }
@@ -462,7 +461,8 @@ public final class TwoKeys {
         if (refusesTyping()) {
             return NONE;
         }
-        if (!followed(0)) {
+        typing.prepare(0, machine.keyCount);
+        if (!followed()) {
             return TOO_MANY;
         }
         if (walk.lastBreak < 0) {
@@ -476,7 +476,8 @@ public final class TwoKeys {
         if (refusesTyping()) {
             return NONE;
         }
-        if (!followed(0)) {
+        typing.prepare(0, machine.keyCount);
+        if (!followed()) {
             return TOO_MANY;
         }
         told.tellTwo(walk.lastBreakWays, power(machine.taskCount, typing.length));
@@ -570,7 +571,7 @@ public final class TwoKeys {
             case 6: return houses.cases;
             case 7: return houses.letters;
             case 8: return told.size;
-            case 9: return signs;
+            case 9: return reader.signs;
             case 10: return handSteps;
             case 11: return now.fired;
             case 12: return now.stopped;
@@ -591,8 +592,8 @@ public final class TwoKeys {
 
     /** Every call that reads THE TEXT leaves it empty, even where it is refused. */
     private int takeText() {
-        int length = signs;
-        signs = 0;
+        int length = reader.signs;
+        reader.signs = 0;
         return length;
     }
 
@@ -604,12 +605,11 @@ public final class TwoKeys {
         return machine.taskCount == 0 || typing.length == 0;
     }
 
-    private boolean explored(int n, int seek, int number) {
-        return walk.explore(now, n, MOST_STATES, seek, number);
+    private boolean explored(int n) {
+        return walk.explore(now, n, MOST_STATES, Walk.SEEK_NOTHING, 0);
     }
 
-    private boolean followed(int leftOut) {
-        typing.prepare(leftOut, machine.keyCount);
+    private boolean followed() {
         return walk.follow(now, typing.tried, typing.length);
     }
 
@@ -639,11 +639,11 @@ public final class TwoKeys {
         return told.size;
     }
 
-    private int tellMarked(boolean[] marked) {
+    private int tellBreakingNumbers() {
         int number = 0;
         told.clear();
-        for (int v = 0; v < 256; v++) {
-            if (marked[v]) {
+        for (int v = 0; v < NUMBERS; v++) {
+            if (breakingNumbers[v]) {
                 number++;
                 told.tellNext(v);
             }
@@ -658,7 +658,8 @@ public final class TwoKeys {
         for (int number = 0; number <= size; number++) {
             for (int bits = 0; bits < sets; bits++) {
                 if (Integer.bitCount(bits) == number && (bits & ~useful) == 0) {
-                    if (!triedSet(what, bits, n)) {
+                    useSet(what, bits);
+                    if (!(what == OF_TYPED ? followed() : explored(n))) {
                         return TOO_MANY;
                     }
                     if (walk.firstBreak < 0) {
@@ -671,16 +672,14 @@ public final class TwoKeys {
         return NEVER;
     }
 
-    private boolean triedSet(int what, int bits, int n) {
-        if (what == OF_TYPED) {
-            return followed(bits);
-        }
+    private void useSet(int what, int bits) {
         if (what == OF_BOLTS) {
             machine.on = bits;
-        } else {
+        } else if (what == OF_PATCHES) {
             machine.usePatches(bits);
+        } else {
+            typing.prepare(bits, machine.keyCount);
         }
-        return explored(n, Walk.SEEK_NOTHING, 0);
     }
 
     private int[] weightsOf(int hand) {
@@ -935,16 +934,15 @@ public final class TwoKeys {
         static final int END = -1;
         static final int COMPARES = 3;
 
-        final char[] text;
-        final int[] held = new int[MOST_SIGNS];
-        int holds = 0;
+        /** THE TEXT. */
+        final char[] text = new char[MOST_TEXT];
+        int signs = 0;
+        /** The part of it that is read, and how far. */
         int length = 0;
         int place = 0;
+        final int[] held = new int[MOST_SIGNS];
+        int holds = 0;
         Program draft = new Program();
-
-        Reader(char[] text) {
-            this.text = text;
-        }
 
         /** The draft goes out, and the one that is not needed any more is the next draft. */
         Program exchange(Program old) {
@@ -953,34 +951,27 @@ public final class TwoKeys {
             return read;
         }
 
-        /** All three answer the place of the first sign that can't stand, or NONE. */
-        int readProgram(int signs) {
-            return readLines(signs, MOST_LINES);
-        }
-
-        int readOneLine(int signs) {
-            return readLines(signs, 1);
-        }
-
-        int readAsked(int signs) {
-            begin(signs);
+        /** The place of the first sign that can't stand, or NONE. */
+        int readAsked(int taken) {
+            begin(taken);
             draft.beginLine(Program.ASKED, 0);
             if (!readExpression(true) || place < length) {
                 return place;
             }
             draft.endLine();
-            return signs > MOST_SIGNS ? MOST_SIGNS : NONE;
+            return taken > MOST_SIGNS ? MOST_SIGNS : NONE;
         }
 
-        private int readLines(int signs, int mostLines) {
-            begin(signs);
+        /** Likewise. */
+        int readLines(int taken, int mostLines) {
+            begin(taken);
             for (int line = 1; line <= mostLines; line++) {
                 if (!readLine()) {
                     return place;
                 }
                 draft.endLine();
                 if (place >= length) {
-                    return signs > MOST_SIGNS ? MOST_SIGNS : NONE;
+                    return taken > MOST_SIGNS ? MOST_SIGNS : NONE;
                 }
                 if (line == mostLines || !passes(';')) {
                     return place;
@@ -989,8 +980,8 @@ public final class TwoKeys {
             return place;
         }
 
-        private void begin(int signs) {
-            length = Math.min(signs, MOST_SIGNS);
+        private void begin(int taken) {
+            length = Math.min(taken, MOST_SIGNS);
             place = 0;
             draft.clear();
             draft.copyText(text, length);
@@ -1014,42 +1005,46 @@ public final class TwoKeys {
 
         private boolean readLine() {
             int sign = look();
+            if (!readHead(sign)) {
+                return false;
+            }
+            return sign == 's' || sign == 'x' || readExpression(false);
+        }
+
+        /** All of a line that stands ahead of its expression. */
+        private boolean readHead(int sign) {
+            place++;
             if (sign >= 'a' && sign <= 'h') {
-                place++;
                 draft.beginLine(Program.SET, sign - 'a');
-                return passes('=') && readExpression(false);
+                return passes('=');
             }
             switch (sign) {
                 case '?':
-                    place++;
                     draft.beginLine(Program.WAIT, 0);
-                    return readExpression(false);
+                    return true;
                 case 'm':
-                    place++;
-                    return readMove();
+                    return readPart() && passes(':');
                 case 'j':
-                    place++;
-                    return readNumbered(Program.JUMP) && passes(':') && readExpression(false);
+                    return readNumbered(Program.JUMP) && passes(':');
                 case 's':
-                    place++;
                     return readNumbered(Program.SAY);
                 case 'x':
-                    place++;
                     draft.beginLine(Program.FIRE, 0);
                     return true;
                 default:
+                    place--;
                     return false;
             }
         }
 
-        private boolean readMove() {
+        private boolean readPart() {
             int part = look() - '0';
             if (part < 0 || part >= PARTS) {
                 return false;
             }
             place++;
             draft.beginLine(Program.MOVE, part);
-            return passes(':') && readExpression(false);
+            return true;
         }
 
         private boolean readNumbered(int kind) {
@@ -1309,7 +1304,7 @@ public final class TwoKeys {
             int fired = m.fired;
             m.stopped = 0;
             m.fired = 1;
-            boolean breaks = breaks(m);
+            boolean breaks = must.lines > 0 && value(must, 0, m) == 0;
             m.stopped = stopped;
             m.fired = fired;
             return breaks;
@@ -1437,7 +1432,7 @@ public final class TwoKeys {
         static final int MOST_MOVES = MOST_TASKS * (MOST_KEYS + 1);
         static final int TABLE = 8192;
 
-        final Machine machine;
+        final Machine machine = new Machine();
         final Moment moment = new Moment();
         final long[] slots = new long[MOST_STATES];
         final long[] rests = new long[MOST_STATES];
@@ -1446,7 +1441,6 @@ public final class TwoKeys {
         /** STATES by their spots, each its number and 1; 0 is free. */
         final int[] table = new int[TABLE];
         final int[] edges = new int[MOST_STATES * MOST_MOVES];
-        final boolean[] breakingNumbers = new boolean[256];
         long[] ways = new long[MOST_STATES];
         long[] laterWays = new long[MOST_STATES];
         int states = 0;
@@ -1458,10 +1452,6 @@ public final class TwoKeys {
         int firstStuck = NONE;
         int lastBreak = NONE;
         long lastBreakWays = 0;
-
-        Walk(Machine machine) {
-            this.machine = machine;
-        }
 
         /** False: there are more STATES than may be. */
         boolean explore(Moment start, int n, int mostStates, int seekKind, int number) {
