@@ -461,7 +461,6 @@ public final class TwoKeys {
         if (refusesTyping()) {
             return NONE;
         }
-        typing.prepare(0, machine.keyCount);
         if (!followed()) {
             return TOO_MANY;
         }
@@ -476,7 +475,6 @@ public final class TwoKeys {
         if (refusesTyping()) {
             return NONE;
         }
-        typing.prepare(0, machine.keyCount);
         if (!followed()) {
             return TOO_MANY;
         }
@@ -610,6 +608,7 @@ public final class TwoKeys {
     }
 
     private boolean followed() {
+        typing.prepare(0, machine.keyCount);
         return walk.follow(now, typing.tried, typing.length);
     }
 
@@ -657,15 +656,19 @@ public final class TwoKeys {
         int useful = what == OF_TYPED ? typing.typedBits() : sets - 1;
         for (int number = 0; number <= size; number++) {
             for (int bits = 0; bits < sets; bits++) {
-                if (Integer.bitCount(bits) == number && (bits & ~useful) == 0) {
-                    useSet(what, bits);
-                    if (!(what == OF_TYPED ? followed() : explored(n))) {
-                        return TOO_MANY;
-                    }
-                    if (walk.firstBreak < 0) {
-                        told.tellOne(bits);
-                        return number;
-                    }
+                if (Integer.bitCount(bits) != number || (bits & ~useful) != 0) {
+                    continue;
+                }
+                useSet(what, bits);
+                boolean through = what == OF_TYPED
+                    ? walk.follow(now, typing.tried, typing.length)
+                    : walk.explore(now, n, MOST_STATES, Walk.SEEK_NOTHING, 0);
+                if (!through) {
+                    return TOO_MANY;
+                }
+                if (walk.firstBreak < 0) {
+                    told.tellOne(bits);
+                    return number;
                 }
             }
         }
@@ -1298,18 +1301,6 @@ public final class TwoKeys {
             return must.lines > 0 && value(must, 0, m) == 0;
         }
 
-        /** Whether it would have broken, had it been FIRED in place of STOPPED. */
-        boolean wouldBreak(Moment m) {
-            int stopped = m.stopped;
-            int fired = m.fired;
-            m.stopped = 0;
-            m.fired = 1;
-            boolean breaks = must.lines > 0 && value(must, 0, m) == 0;
-            m.stopped = stopped;
-            m.fired = fired;
-            return breaks;
-        }
-
         void act(Moment m, int task, int key) {
             if (task < 0 || task >= taskCount) {
                 return;
@@ -1500,7 +1491,10 @@ public final class TwoKeys {
                     if (next < 0) {
                         return false;
                     }
-                    edges[edge] = next << EDGE_BITS | judge(step);
+                    int bits = machine.breaks(moment) ? BREAKS : 0;
+                    bits |= isSought() ? SOUGHT : 0;
+                    noteFirst(step, bits);
+                    edges[edge] = next << EDGE_BITS | bits;
                     stays = stays && next == state;
                     edge++;
                     move++;
@@ -1512,27 +1506,28 @@ public final class TwoKeys {
             return true;
         }
 
-        private int judge(int step) {
-            int bits = 0;
-            if (machine.breaks(moment)) {
-                bits = BREAKS;
-                firstBreak = firstBreak < 0 ? step : firstBreak;
-            }
-            if (seek != SEEK_NOTHING && isSought()) {
-                bits |= SOUGHT;
-                firstSought = firstSought < 0 ? step : firstSought;
-            }
-            return bits;
-        }
-
         private boolean isSought() {
             switch (seek) {
+                case SEEK_NOTHING:
+                    return false;
                 case SEEK_QUESTION:
                     return machine.value(machine.question, 0, moment) != 0;
                 case SEEK_SAID:
                     return moment.said == seekNumber + 1;
                 default:
-                    return moment.failing == 1 << seekNumber && machine.wouldBreak(moment);
+                    // as if it had been FIRED: the moment is not looked at again behind this
+                    moment.fired = 1;
+                    moment.stopped = 0;
+                    return moment.failing == 1 << seekNumber && machine.breaks(moment);
+            }
+        }
+
+        private void noteFirst(int step, int bits) {
+            if (firstBreak < 0 && (bits & BREAKS) != 0) {
+                firstBreak = step;
+            }
+            if (firstSought < 0 && (bits & SOUGHT) != 0) {
+                firstSought = step;
             }
         }
 

@@ -424,8 +424,8 @@ public final class PromisesTest {
         x.slot(0, 5);
         x.slot(1, 2);
         String[] texts = {"7", "a", "a+b", "a-b-1", "a-(b-1)", "-a", "!a", "!!a", "!0", "--a", "-!c", "a|b", "a&b", "a&c", "c|0", "a<b", "a>b",
-            "b=2", "b=2=0|1", "a+1=6&b", "1|0&0", "0&0|1", "1+1<1+2", "!a+1", "-a<0", "!(a=5)", "999+999", "A", "(((((a)))))", "a=5&b=2|c", "W"};
-        long[] values = {7, 5, 7, 2, 4, -5, 0, 1, 1, 5, -1, 1, 1, 0, 0, 0, 1, 1, MIN, 1, 1, 1, 1, 1, 1, 0, 1998, 0, 5, 1, 0};
+            "b=2", "b>2", "b<2", "b=2=0|1", "a+1=6&b", "1|0&0", "0&0|1", "1+1<1+2", "!a+1", "-a<0", "!(a=5)", "999+999", "A", "(((((a)))))", "a=5&b=2|c", "W"};
+        long[] values = {7, 5, 7, 2, 4, -5, 0, 1, 1, 5, -1, 1, 1, 0, 0, 0, 1, 1, 0, 0, MIN, 1, 1, 1, 1, 1, 1, 0, 1998, 0, 5, 1, 0};
         for (int i = 0; i < texts.length; i++) {
             if (values[i] == MIN) {
                 due("ask of " + texts[i], put(x, texts[i]).ask(), -4);
@@ -535,6 +535,12 @@ public final class PromisesTest {
         TwoKeys y = with(0, "", "a=a+1", "b=b+1", "c=c+1", "d=d+1");
         due("too many, though it is so now", put(y, "a=0").reach(16), -3);
         rowIs(y);
+        due("in two", put(y, "b=2").reach(3), 2);
+        rowIs(y, 1, 1);
+        due("the first by numbers", put(y, "a+b+c+d=1").reach(3), 1);
+        rowIs(y, 0);
+        due("as it is", put(y, "a=0").reach(3), 0);
+        rowIs(y);
     }
 
     private static void stucks() {
@@ -554,6 +560,9 @@ public final class PromisesTest {
         rowIs(x, 1);
         x.keys(2);
         due("two keys", x.stuck(20), -2);
+        TwoKeys w = with(0, "", "a=a+1", "b=b+1", "c=c+1", "d=d+1");
+        due("too many states", w.stuck(16), -3);
+        due("none", w.stuck(15), -2);
         TwoKeys y = with(0, "", "m0:1;?0");
         due("moving is not stuck", y.stuck(20), 4);
         rowIs(y, 0, 0, 0, 0);
@@ -703,6 +712,19 @@ public final class PromisesTest {
         y.weight(1, 4, 4);
         y.weight(1, 0, 9);
         due("1 of 10 against 4 of 40", y.quick(7), 2);
+        TwoKeys w = with(1, "!h", "?0");
+        w.weight(1, 0, 2);
+        w.weight(1, 1, 3);
+        due("1 of 2 against 3 of 5", w.quick(1), 1);
+        w.weight(0, 0, 2);
+        w.weight(0, 1, 3);
+        w.weight(1, 0, 1);
+        w.weight(1, 1, 1);
+        due("3 of 5 against 1 of 2", w.quick(1), 0);
+        TwoKeys e = with(4, "", "?0", "?0");
+        due("10 to the 12th", e.quick(12), 2);
+        e.weight(1, 0, 0);
+        due("10 to the 13th of one", e.quick(13), -1);
         TwoKeys z = with(0, "", "a=a+1", "b=b+1", "c=c+1", "d=d+1");
         due("too many states", z.quick(16), -3);
     }
@@ -730,6 +752,12 @@ public final class PromisesTest {
         due("the row stays", y.count(8), 20);
         TwoKeys e = with(3, "h<3", capped('a', 4), capped('b', 4), capped('c', 5), "?0");
         due("300 states each", e.round(6, 6), 256);
+        TwoKeys t = with(0, "a<b", "a=a+1");
+        t.slot(0, 7);
+        t.slot(1, 3);
+        due("the other slots are as they are", t.round(0, 1), 253);
+        due("the other slots are as they are", t.round(1, 1), 9);
+        rowIs(t, 0, 1, 2, 3, 4, 5, 6, 7, 8);
         TwoKeys o = with(3, "h<3", capped('a', 1), capped('b', 2), capped('c', 2), capped('d', 4));
         due("301 states each", o.round(6, 6), -3);
     }
@@ -751,6 +779,15 @@ public final class PromisesTest {
         rowIs(y, 5, 2);
         due("three", y.means(6, 3), 0);
         rowIs(y, 19, 12);
+        task(y, 0, "s0");
+        task(y, 2, "s99");
+        due("the least number", y.means(0, 1), 0);
+        rowIs(y, 1, 0);
+        due("the greatest number", y.means(99, 1), 0);
+        rowIs(y, 1, 0);
+        TwoKeys e = with(4, "", "s1", "?0");
+        due("10 to the 12th", e.means(1, 12), 0);
+        rowIs(e, 1000000000000L - 244140625, 0);
         due("0 steps", y.means(6, 0), 0);
         rowIs(y, 0, 0);
         TwoKeys z = with(0, "", "a=a+1", "b=b+1", "c=c+1", "d=d+1");
@@ -825,6 +862,7 @@ public final class PromisesTest {
     private static void patchesTold() {
         TwoKeys x = with(0, "", "a=1;x");
         due("no such task", patch(x, 1, 0, "x"), -100);
+        due("no such task", patch(x, 4, 0, "x"), -100);
         due("no such task", patch(x, -1, 0, "x"), -100);
         due("no such line", patch(x, 0, 2, "q"), -100);
         due("no such line", patch(x, 0, -1, "x"), -100);
@@ -852,6 +890,7 @@ public final class PromisesTest {
         patch(x, 1, 1, "s7");
         due("the second", x.mend(5), 1);
         rowIs(x, 2);
+        due("patches are not put on", x.never(3), 3);
         patch(x, 0, 0, "a=0");
         due("of as few the least", x.mend(5), 1);
         rowIs(x, 2);
@@ -866,6 +905,7 @@ public final class PromisesTest {
         must(x, "!F");
         task(x, 1, "x");
         due("the line is not there any more", x.mend(5), -2);
+        due("patches are not put on", x.never(1), 1);
         task(x, 1, "?0;s1");
         due("none needed", x.mend(5), 0);
         TwoKeys y = with(0, "!F&!(S=4)", "x");
@@ -950,6 +990,14 @@ public final class PromisesTest {
         TwoKeys y = with(0, "!F", "x");
         y.type(0);
         due("breaks in the first", y.fits(), 1);
+        rowIs(y, 0);
+        TwoKeys w = with(0, "!F", "?0", "x", "x");
+        w.type(0);
+        due("task 1 is the first by numbers", w.fits(), 1);
+        rowIs(w, 1);
+        task(w, 0, "x");
+        due("task 0 is the first by numbers", w.fits(), 1);
+        rowIs(w, 0);
         y.type(0);
         due("not for the first time", y.fits(), 0);
         TwoKeys z = with(0, "", "a=a+a+1", "a=a+a", "b=b+b+1", "b=b+b");
@@ -1057,6 +1105,17 @@ public final class PromisesTest {
         task(x, 3, "b=2");
         due("the text counts", x.like(1, 2), 0);
         due("numbers count", x.like(1, 3), 0);
+        due("none such", x.like(4, 0), -1);
+        due("none such", x.like(0, -1), -1);
+        String[] one = {"a=b", "a=a", "a=b", "a=1", "a=b", "a=b;c=a", "a=b;c=a"};
+        String[] two = {"c=c", "b=c", "c=1", "c=d", "x;x", "b=a;c=b", "b=a;d=c"};
+        int[] alike = {0, 0, 0, 0, 0, 1, 0};
+        for (int i = 0; i < one.length; i++) {
+            task(x, 0, one[i]);
+            task(x, 1, two[i]);
+            due("like of " + one[i] + " and " + two[i], x.like(0, 1), alike[i]);
+        }
+        rowIs(x, 1, 0, 2, -1, -1, -1, -1, -1);
     }
 
     // ---- houses
@@ -1099,6 +1158,8 @@ public final class PromisesTest {
         for (int[] b : bad) {
             due("knew " + Arrays.toString(b), x.knew(b[0], b[1]), -1);
         }
+        due("week 0", x.knew(0, 0), 0);
+        due("week 200", x.knew(5, 200), 0);
         x.given(0, 3, 1);
         x.given(1, 4, 2);
         x.letter(3, 0, 4, 0);
@@ -1147,6 +1208,13 @@ public final class PromisesTest {
         rowIs(x, 2);
         x.given(0, 99, 128);
         due("the last week of a case", x.enough(128, 1), 99);
+        due("all marks", x.enough(255, 12), -2);
+        TwoKeys y = new TwoKeys();
+        for (int i = 0; i < 12; i++) {
+            y.given(4, i, 1 << i % 8);
+        }
+        due("all marks, all cases", y.enough(255, 12), 11);
+        rowIs(y, 4);
     }
 
     // ---- kept
