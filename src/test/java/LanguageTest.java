@@ -49,6 +49,8 @@ public final class LanguageTest {
             yes(m.getName() + " is public or private", isPublic || Modifier.isPrivate(m.getModifiers()) || m.isSynthetic());
             if (isPublic) {
                 open.add(m.getName());
+            } else {
+                yes(m + " bears a public name", !Set.of(FACE.split(" ")).contains(m.getName()));
             }
         }
         yes("the public methods are those of the face", open.equals(new TreeSet<>(List.of(FACE.split(" ")))));
