@@ -35,7 +35,6 @@ final class HouseBounds {
         String[][] unlike = {{"a=b", "c=c"}, {"a=a", "b=c"}, {"a=a", "a=A"}, {"a=1", "a=2"}, {"a=1", "a=01"}, {"a=1", "a=(1)"}, {"a=1", "a=b"},
             {"a=b", "a=1"}, {"a=1", "a=1;x"}, {"a=1;x", "a=1"}, {"x", "s1"}, {"m0:a", "m1:a"}, {"a=b;b=c;c=a", "a=b;b=c;c=b"},
             {"a=b;c=b", "a=b;a=b"}, {"a=A", "a=B"}, {"?a", "?A"}, {"?A", "?a"}};
-        String before = Bounds.look(x).replaceAll(", at.*", "");
         for (String[] pair : unlike) {
             TwoKeys y = Bounds.with(0, "", pair[0], pair[1]);
             Bounds.value(y, "77");
@@ -55,7 +54,7 @@ final class HouseBounds {
         Bounds.due("60 signs", w.like(0, 1), 1);
         Bounds.due("unlike in the last sign", w.like(0, 2), 0);
         Bounds.says(35, "NONE: none such.");
-        before = Bounds.look(x);
+        String before = Bounds.look(x);
         for (int task : new int[] {4, 5, -1, MIN, MAX}) {
             Bounds.due("like(0, " + task + ")", x.like(0, task), TwoKeys.NONE);
             Bounds.due("like(" + task + ", 0)", x.like(task, 0), TwoKeys.NONE);
@@ -319,6 +318,14 @@ final class HouseBounds {
         x.keep(1);
         x.again(1);
         Bounds.due("kept anew", x.speed(3, 0), 7);
+        x.turn(0, true);
+        x.keys(0);
+        x.keep(2);
+        x.turn(0, false);
+        x.keys(3);
+        x.again(2);
+        Bounds.due("BOLTS ON", x.count(3), 1);
+        Bounds.due("KEYS", x.count(1), 0);
         Bounds.says(41, "Refused: nothing kept, a task() or bolt() since.");
         TwoKeys y = Bounds.with(2, "", "a=a+1");
         Bounds.no("nothing kept", y.again(0));

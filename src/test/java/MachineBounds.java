@@ -508,6 +508,10 @@ final class MachineBounds {
             Bounds.due("step(" + r[0] + ", " + r[1] + ")", x.step(r[0], r[1]), TwoKeys.NONE);
         }
         Bounds.unchanged(x, before);
+        TwoKeys four = Bounds.with(4, "", "x", "x", "x", "x");
+        Bounds.due("the last TASK, KEY", four.step(3, 4), 1);
+        Bounds.due("a fifth TASK", four.step(4, 0), TwoKeys.NONE);
+        Bounds.due("a fifth KEY", four.step(3, 5), TwoKeys.NONE);
         TwoKeys none = new TwoKeys();
         Bounds.due("no TASKS", none.step(0, 0), TwoKeys.NONE);
         Bounds.due("no STEP", none.count(10), 0);
@@ -727,6 +731,11 @@ final class MachineBounds {
         Bounds.due("1 without KEYS", y.steps(2, 1, 1, 0), 0);
         Bounds.due("0 without KEYS", y.steps(2, 1, 0, 0), 1);
         Bounds.due("no KEY typed", y.at(7), 4);
+        TwoKeys all = Bounds.with(4, "", "?0", "?0", "?0", "s1");
+        Bounds.due("19 of four TASKS", all.steps(2, 1, 19, 0), 1);
+        Bounds.due("TASK 3", all.count(14), 3);
+        Bounds.due("KEY 4", all.at(7), 4);
+        Bounds.due("20 of four TASKS", all.steps(2, 1, 20, 0), 0);
     }
 
     // ---- promises 13, 14
@@ -776,6 +785,9 @@ final class MachineBounds {
         Bounds.due("! ahead of a thing binds most", askWithSlot(3, "!a+1"), 1);
         Bounds.due("| binds least", askWithSlot(3, "1|0&0"), 1);
         Bounds.due("& behind =", askWithSlot(3, "a=3&2"), 1);
+        Bounds.due("< = > give 1", askWithSlot(3, "(a<9)+(a>1)+(a=3)"), 3);
+        Bounds.due("| in ( )", askWithSlot(3, "(0|a)+!(0|0)"), 2);
+        Bounds.due("& and + in ( )", askWithSlot(3, "9-(a+(2&a))"), 5);
         Bounds.says(14, "S (what was SAID in it, and 1; 0 if nothing was)");
         x.step(0, 0);
         Bounds.due("S", Bounds.value(x, "S"), 100);
@@ -789,6 +801,14 @@ final class MachineBounds {
         Bounds.due("A", Bounds.value(x, "A"), 4);
         x.steps(2, 3, 3, 0);
         Bounds.due("A", Bounds.value(x, "A"), 3);
+        TwoKeys parts = Bounds.with(0, "", "m1:1;m2:2;m3:3;?0");
+        parts.speed(1, 0);
+        parts.speed(2, 0);
+        parts.steps(2, 3, 0, 0);
+        Bounds.due("A, B, C", Bounds.value(parts, "A+B+B+C+C+C"), 8);
+        Bounds.due("D", Bounds.value(parts, "D"), 4);
+        parts.steps(2, 3, 0, 0);
+        Bounds.due("D", Bounds.value(parts, "D"), 3);
         Bounds.says(14, "-1 - p as task().");
         Bounds.value(x, "77");
         String before = Bounds.look(x);

@@ -44,6 +44,7 @@ final class MendBounds {
         Bounds.due("another one that holds", x.hid(0, 1), 1);
         x.slot(0, 20);
         Bounds.due("another one that does not hold", x.hid(0, 9), -2);
+        Bounds.due("nor the other", x.hid(1, 9), -2);
         x.turn(1, false);
         Bounds.due("which is not ON", x.hid(0, 9), 1);
         TwoKeys y = Bounds.with(0, "!P", "x");
@@ -51,6 +52,8 @@ final class MendBounds {
         Bounds.due("P 0", y.hid(0, 9), -2);
         Bounds.must(y, "P|!F");
         Bounds.due("F 1, P 0", y.hid(0, 9), 1);
+        Bounds.must(y, "!(F=1)");
+        Bounds.due("F 1", y.hid(0, 9), 1);
         Bounds.must(y, "F&!P&!S&!W");
         Bounds.due("it would hold", y.hid(0, 9), -2);
         Bounds.must(y, "0");
@@ -181,6 +184,9 @@ final class MendBounds {
         Bounds.due("signs", y.count(9), 0);
         Bounds.unchanged(y, before);
         Bounds.due("no TASKS", Bounds.patch(new TwoKeys(), 0, 0, "x"), -100);
+        TwoKeys four = Bounds.with(0, "", "x", "x", "x", "x");
+        Bounds.due("a fifth TASK", Bounds.patch(four, 4, 0, "x"), -100);
+        Bounds.due("the fourth", Bounds.patch(four, 3, 0, "x"), 0);
         Bounds.says(27, "-1 - p as task() (a ; can't stand);");
         Bounds.due("a ;", Bounds.patch(y, 0, 0, "x;x"), -2);
         Bounds.due("a ; at the end", Bounds.patch(y, 0, 0, "a=1;"), -4);

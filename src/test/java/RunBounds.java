@@ -90,6 +90,9 @@ final class RunBounds {
         Bounds.says(15, TOO_MANY_STATES);
         Bounds.due("4000", Bounds.counted4000(), 4000);
         tooManyStates("", 4000, TwoKeys::all);
+        TwoKeys widest = Bounds.with(4, "", Bounds.capped('a', 4), Bounds.capped('b', 4), Bounds.capped('c', 3), Bounds.capped('d', 7));
+        // a KEY comes with a count, so that four of 5 times 800 are not come to
+        Bounds.due("3996 STATES with 20 STEPS from each", widest.all(20), 3996);
         Bounds.says(15, "-3; NONE: n not 0 .. 20, no TASKS.");
         noneAsAll(TwoKeys::all);
         Bounds.due("NONE, though there are too many STATES", Bounds.with4001("").all(21), TwoKeys.NONE);
@@ -412,6 +415,20 @@ final class RunBounds {
         x.weight(1, 0, 1);
         x.weight(1, 1, 4);
         Bounds.due("8 of 10 and 4 of 5", x.quick(12), 2);
+        TwoKeys near = Bounds.with(1, "h<1", "?0");
+        near.weight(1, 0, 2);
+        near.weight(1, 1, 3);
+        Bounds.due("1 of 2 and 3 of 5", near.quick(1), 1);
+        near.weight(0, 0, 1);
+        near.weight(0, 1, 2);
+        Bounds.due("2 of 3 and 3 of 5", near.quick(1), 0);
+        near.weight(1, 0, 0);
+        Bounds.due("2 of 3 and all", near.quick(1), 1);
+        near.weight(0, 1, 0);
+        near.weight(1, 0, 8);
+        Bounds.due("none and 3 of 11", near.quick(1), 1);
+        near.weight(1, 1, 0);
+        Bounds.due("none and none", near.quick(9), 2);
         Bounds.says(22, "NONE (of either, first), -2 (of either), -3 as odds().");
         Bounds.due("10 to the 13th of HAND 0", x.quick(13), TwoKeys.NONE);
         x.weight(1, 0, 0);
