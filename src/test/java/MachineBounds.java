@@ -788,6 +788,8 @@ final class MachineBounds {
         Bounds.due("< = > give 1", askWithSlot(3, "(a<9)+(a>1)+(a=3)"), 3);
         Bounds.due("| in ( )", askWithSlot(3, "(0|a)+!(0|0)"), 2);
         Bounds.due("& and + in ( )", askWithSlot(3, "9-(a+(2&a))"), 5);
+        Bounds.due("- ahead of a thing in ( )", askWithSlot(3, "1+(2+(9+-(4+-a)))"), 11);
+        Bounds.due("all that bind in ( ) five deep", askWithSlot(3, "0|1&1<1+(0|1&1<1+(0|1&1<1+(0|1&1<1+(0|1&1<1+(0|1&1<1+!0)))))"), 1);
         Bounds.says(14, "S (what was SAID in it, and 1; 0 if nothing was)");
         x.step(0, 0);
         Bounds.due("S", Bounds.value(x, "S"), 100);

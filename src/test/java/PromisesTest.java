@@ -181,6 +181,8 @@ public final class PromisesTest {
             due("the text is empty then", x.count(9), 0);
         }
         due("nothing has changed", x.count(0), 0);
+        // an object answers 512 calls
+        x = new TwoKeys();
         String[] good = {"x", "s0", "s99", "j0:1", "j99:1", "m3:0", "?0", "a=1<2", "a=(1<2)<3", "a=1<2&2<3", "a=(((((1)))))",
             "a=((1))+(((2)))", "a=!!--!1", "a=1--1", "a=999", "h=A+B+C+D", "a=1;b=2;?c", "a=1=2|3", "a=(1=2)=3"};
         for (String t : good) {
