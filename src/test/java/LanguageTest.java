@@ -5,7 +5,9 @@ import java.nio.file.Files;
 import java.nio.file.Path;
 import java.util.ArrayList;
 import java.util.List;
+import java.util.Map;
 import java.util.Set;
+import java.util.TreeMap;
 import java.util.TreeSet;
 import java.util.regex.Matcher;
 import java.util.regex.Pattern;
@@ -17,6 +19,10 @@ public final class LanguageTest {
     private static final String[] FORBIDDEN = {"\\bcatch\\b", "\\btry\\b", "\\bfinally\\b", "->", "::", "\\bsynchronized\\b", "\\bassert\\b",
         "\\binstanceof\\b", "\\bfloat\\b", "\\bdouble\\b", "Exact\\(", "\\bArrayList\\b", "\\bString\\b", "\\bprotected\\b", "\\bwhile \\(true\\)",
         "for \\(;;\\)", "System\\.(?!arraycopy)", "Math\\.(?!min|max)", "Integer\\.(?!bitCount)", "\\[\\]\\["};
+
+    /** The first line of a method, in the class or in one inside it. */
+    private static final Pattern HEAD =
+        Pattern.compile(" {4,8}(?!if|for|while|switch|else|return|do|new)[\\w\\[\\] ]+ (\\w+)\\([^;]*\\{");
 
     private static int wrong = 0;
 
@@ -33,6 +39,7 @@ public final class LanguageTest {
         names();
         words(source.replaceAll("(?s)/\\*.*?\\*/", "").replaceAll("//[^\n]*", ""));
         lengths(source.split("\n"));
+        depths(source.replaceAll("(?s)/\\*.*?\\*/", "").replaceAll("//[^\n]*", "").split("\n"));
         for (char c : source.toCharArray()) {
             if (c > 126) {
                 yes("signs are 1 to 127", false);
@@ -96,7 +103,7 @@ public final class LanguageTest {
     private static void lengths(String[] lines) {
         for (int i = 0; i < lines.length; i++) {
             yes("line " + (i + 1) + " is too long", lines[i].length() <= 120);
-            if (lines[i].matches(" {4,8}(?!if|for|while|switch|else|return|do)[\\w\\[\\] ]+ \\w+\\(.*\\{")) {
+            if (HEAD.matcher(lines[i]).matches()) {
                 String end = lines[i].replaceAll("\\S.*", "") + "}";
                 int j = i;
                 while (j < lines.length && !lines[j].equals(end)) {
@@ -105,5 +112,37 @@ public final class LanguageTest {
                 yes("the method at line " + (i + 1) + " is too long", j - i < 60);
             }
         }
+    }
+
+    /** Calls go at most eight deep; methods of one name are taken as one, so this counts rather too many. */
+    private static void depths(String[] lines) {
+        Map<String, Set<String>> called = new TreeMap<>();
+        String name = "";
+        for (String line : lines) {
+            Matcher head = HEAD.matcher(line);
+            if (head.matches()) {
+                name = head.group(1);
+                called.putIfAbsent(name, new TreeSet<>());
+            } else if (!name.isEmpty()) {
+                Matcher calls = Pattern.compile("(?<!new )\\b(\\w+)\\(").matcher(line);
+                while (calls.find()) {
+                    called.get(name).add(calls.group(1));
+                }
+            }
+        }
+        yes("the methods of the source are found", called.keySet().containsAll(Set.of(FACE.split(" "))));
+        for (String call : FACE.split(" ")) {
+            yes(call + " goes too deep", depth(call, called, 1) <= 8);
+        }
+    }
+
+    private static int depth(String name, Map<String, Set<String>> called, int from) {
+        int deepest = from;
+        for (String next : called.get(name)) {
+            if (called.containsKey(next) && from <= 20) {
+                deepest = Math.max(deepest, depth(next, called, from + 1));
+            }
+        }
+        return deepest;
     }
 }
